@@ -1,6 +1,6 @@
 /** Long runs of calls, each answer held against PlainModel's: all promises at once. */
 public final class ModelTest {
-    private static final int RUNS = 3000, CALLS = 512;
+    private static final int RUNS = 2500, CALLS = 512, MOST_IN_A_STEP = 3;
 
     private final Due due = new Due("ModelTest");
     private CellToObject x;
@@ -9,7 +9,9 @@ public final class ModelTest {
     private long seed;
     /** Some runs keep to few addresses, so that lines and pages meet. */
     private int spread;
-    private boolean wild;
+    /** Wild runs have numbers far off; in spoilt ones many PLACES are turned; keeping ones hold all that is made. */
+    private boolean wild, spoilt, keeping;
+    private int lastMade, calls;
 
     public static void main(String[] args) {
         ModelTest test = new ModelTest();
@@ -21,12 +23,17 @@ public final class ModelTest {
         x = new CellToObject();
         m = new PlainModel();
         seed = 88172645463325252L + 7919L * r;
-        spread = new int[] {64, 200, 1024}[pick(3)];
+        spread = new int[] {40, 64, 200, 1024}[pick(4)];
         wild = pick(8) == 0;
-        for (int i = 0; i < CALLS && !due.anyWrong(); i++) {
-            run = "run " + r + " call " + i + " ";
+        spoilt = pick(3) == 0;
+        keeping = pick(4) == 0;
+        lastMade = -1;
+        calls = 0;
+        while (calls <= CALLS - MOST_IN_A_STEP && !due.anyWrong()) {
+            run = "run " + r + " call " + calls + " ";
             int part = pick(100);
-            if (part < 15) callCells();
+            if (spoilt && part % 5 == 0) spoil();
+            else if (part < 15) callCells();
             else if (part < 25) callLines();
             else if (part < 55) callPages();
             else if (part < 90) callObjects();
@@ -50,6 +57,12 @@ public final class ModelTest {
                 int k = number(0, 13), w = number(0, 2);
                 check("patterns(" + k + ", " + w + ")", x.patterns(k, w), m.patterns(k, w)); }
         }
+    }
+
+    private void spoil() {
+        int c = pick(Math.min(spread, 512)), p = pick(4);
+        if (pick(2) > 0) check("flip(" + c + ", 12)", x.flip(c, 12), m.flip(c, 12));
+        check("flip(" + c + ", " + p + ")", x.flip(c, p), m.flip(c, p));
     }
 
     private void callLines() {
@@ -85,10 +98,13 @@ public final class ModelTest {
             case 0: case 1: case 2: case 3: case 4: {
                 int p = number(0, 1), n = pick(3) > 0 ? number(1, 24) : number(20, 24);
                 boolean rite = pick(4) == 0;
-                check("make(" + p + ", " + n + ", " + rite + ")", x.make(p, n, rite), m.make(p, n, rite)); break; }
-            case 5: case 6: { int p = number(0, 1), o = object(), f = number(0, pick(2) > 0 ? 3 : 23);
+                int made = x.make(p, n, rite);
+                check("make(" + p + ", " + n + ", " + rite + ")", made, m.make(p, n, rite));
+                if (keeping && made >= 0) keep(made);
+                break; }
+            case 5: case 6: { int p = number(0, 1), o = object(), f = field();
                 check("get(" + p + ", " + o + ", " + f + ")", x.get(p, o, f), m.get(p, o, f)); break; }
-            case 7: case 8: case 9: case 10: { int p = number(0, 1), o = object(), f = number(0, pick(2) > 0 ? 3 : 23);
+            case 7: case 8: case 9: case 10: { int p = number(0, 1), o = object(), f = field();
                 int v = pick(3) > 0 ? 128 + object() : number(0, 255);
                 check("put(" + p + ", " + o + ", " + f + ", " + v + ")", x.put(p, o, f, v), m.put(p, o, f, v)); break; }
             case 11: case 12: { boolean weak = pick(3) == 0; int i = number(0, weak ? 3 : 7), o = object();
@@ -103,6 +119,15 @@ public final class ModelTest {
         }
     }
 
+    /** Each OBJECT holds the one made before it, and a ROOT holds the latest. */
+    private void keep(int made) {
+        if (lastMade >= 0 && pick(40) > 0) {
+            check("put(1, " + made + ", 0, " + (128 + lastMade) + ")", x.put(1, made, 0, 128 + lastMade), m.put(1, made, 0, 128 + lastMade));
+        }
+        check("hold(false, 7, " + made + ")", x.hold(false, 7, made), m.hold(false, 7, made));
+        lastMade = made;
+    }
+
     private void callBlame() {
         if (pick(2) == 0) {
             int c = number(0, 7);
@@ -114,6 +139,7 @@ public final class ModelTest {
     }
 
     private void check(String call, long got, long want) {
+        calls++;
         due.is(run + call, got, want);
     }
 
@@ -123,6 +149,11 @@ public final class ModelTest {
 
     private int address() {
         return number(0, spread - 1);
+    }
+
+    private int field() {
+        int first = keeping ? 1 : 0;
+        return number(first, pick(2) > 0 ? 3 : 23);
     }
 
     private int object() {

@@ -783,7 +783,7 @@ public final class CellToObject {
         /** Puts behind what the row holds from a place on: the place up to which that is done. */
         private int follow(int from) {
             int at = from;
-            for (; at < rowLength; at++) {
+            for (; at < rowLength && at < OBJECTS; at++) {
                 int object = row[at];
                 for (int f = 0; f < fields[object]; f++) {
                     int v = caches.ask(0, memory.touch(address[object] + f));
