@@ -590,22 +590,29 @@ public final class CellToObject {
         private static final int LENGTH = 100, NOT_HELD = -1;
 
         private final int[] pages = new int[LENGTH];
+        /** Where the PAGE stands that was TOUCHED longest ago of THE RUN. */
+        private int first;
+        private int length;
         /** For fewestFaults alone: where in THE RUN a PAGE that is held comes next. */
         private final int[] next = new int[PAGES];
-        private int seen;
+
+        private int pageAt(int i) {
+            return pages[(first + i) % LENGTH];
+        }
 
         void add(int page) {
-            if (seen > 0 && pages[(seen - 1) % LENGTH] == page) return;
-            pages[seen % LENGTH] = page;
-            seen++;
+            if (length > 0 && pageAt(length - 1) == page) return;
+            pages[(first + length) % LENGTH] = page;
+            if (length < LENGTH) length++;
+            else first = (first + 1) % LENGTH;
         }
 
         /** No rule has fewer FAULTS than the one by which the PAGE goes that comes next last. */
         int fewestFaults(int k) {
             for (int page = 0; page < PAGES; page++) next[page] = NOT_HELD;
             int faults = 0, held = 0;
-            for (int i = Math.max(0, seen - LENGTH); i < seen; i++) {
-                int page = pages[i % LENGTH];
+            for (int i = 0; i < length; i++) {
+                int page = pageAt(i);
                 if (next[page] == NOT_HELD) {
                     faults++;
                     if (held < k) held++;
@@ -617,10 +624,10 @@ public final class CellToObject {
         }
 
         private int nextUse(int page, int from) {
-            for (int i = from; i < seen; i++) {
-                if (pages[i % LENGTH] == page) return i;
+            for (int i = from; i < length; i++) {
+                if (pageAt(i) == page) return i;
             }
-            return seen;
+            return length;
         }
 
         private int furthest() {
