@@ -21,6 +21,7 @@ public final class EdgesTest {
         whereBlocksBegin();
         setIsFull();
         dirtyOneIsStoredFirst();
+        theOthersIsStoredBeforeOneGoes();
         onlyTheDirtyOneOfTheOther();
         sizeOfThePlay();
         playOfOneSet();
@@ -47,8 +48,10 @@ public final class EdgesTest {
         lostFields();
         ritesOnceAlone();
         movedToTheFirstAddress();
+        movedByProcessor0();
         movedByLessThanItsLength();
         lostAcrossAMove();
+        allTicksOfAGathering();
         ticksOfAnObject();
         putOfItself();
         DUE.finish();
@@ -274,6 +277,10 @@ public final class EdgesTest {
             ask(x, p, 5);
             hasNot(x, p, 0, 1);
             has(x, p, 2, 3, 4, 5);
+            x = new CellToObject();
+            ask(x, p, 1, 3, 5);
+            hasNot(x, p, 1);
+            has(x, p, 3, 5);
         }
     }
 
@@ -323,6 +330,18 @@ public final class EdgesTest {
         never = x.blame(2);
         x.load(0, 64);
         DUE.is("a clean one is not STORED", x.blame(2) - never, 2);
+    }
+
+    /** "if the other one has it DIRTY, that is STORED. If the SET is full, one goes": ROWS 0, 1, 0 of one BANK. */
+    private static void theOthersIsStoredBeforeOneGoes() {
+        CellToObject x = flat(1, 1);
+        x.save(1, 0, 5);
+        x.save(0, 32, 6);
+        DUE.is("open(0)", x.open(0), 1);
+        long row = x.blame(1), never = x.blame(NEVER);
+        DUE.is("load(0, 0)", x.load(0, 0), 5);
+        DUE.is("ROW 0, ROW 1, ROW 0", x.blame(1) - row, 15);
+        DUE.is("two STORED, one brought", x.blame(NEVER) - never, 6);
     }
 
     /** "if the other one has it DIRTY, that is STORED": and else nothing is. */
@@ -898,6 +917,19 @@ public final class EdgesTest {
         DUE.is("count(15)", x.count(15), 0);
     }
 
+    /** "5 GATHERING, by PROCESSOR 0": what is MOVED too. */
+    private static void movedByProcessor0() {
+        CellToObject x = new CellToObject();
+        for (int n : new int[] {8, 8, 16}) x.make(1, n, false);
+        x.hold(false, 0, 1);
+        x.hold(false, 1, 2);
+        x.lines(1, 4);
+        DUE.is("gather(1)", x.gather(1), 1);
+        for (int b = 0; b < 4; b++) DUE.is("line(1, " + b + ")", x.line(1, b), 0);
+        for (int b = 0; b < 3; b++) DUE.is("line(0, " + b + "): SAVED", x.line(0, b), 2);
+        DUE.is("line(0, 3): LOADED", x.line(0, 3), 1);
+    }
+
     /** "byte by byte LOADED and SAVED": where it comes to lie meets where it lay. */
     private static void movedByLessThanItsLength() {
         CellToObject x = new CellToObject();
@@ -949,6 +981,31 @@ public final class EdgesTest {
         int before = x.count(14);
         DUE.is("get(0, 1, 0)", x.get(0, 1, 0), LOST);
         DUE.is("about(1, 4): a LOST one's too", x.about(1, 4), spent + x.count(14) - before);
+    }
+
+    /** "7 GATHERING (all ticks in one)": of ROWS, PAGES and MISSES too. */
+    private static void allTicksOfAGathering() {
+        CellToObject x = new CellToObject();
+        x.frames(1);
+        x.lines(1, 1);
+        for (int i = 0; i < 3; i++) x.make(0, 24, i == 1);
+        x.hold(false, 0, 2);
+        x.load(1, 1023);
+        for (int kind = 0; kind <= 2; kind++) {
+            long[] before = new long[8];
+            for (int c = 0; c < 8; c++) before[c] = x.blame(c);
+            int ticks = x.count(14), faults = x.count(6), misses = x.count(1);
+            x.gather(kind);
+            for (int c = 0; c < 7; c++) DUE.is("blame(" + c + ") by gather(" + kind + ")", x.blame(c), before[c]);
+            DUE.is("blame(7) by gather(" + kind + ")", x.blame(7) - before[7], x.count(14) - ticks);
+            if (kind > 0) continue;
+            DUE.holds("FAULTS are counted in it", x.count(6) > faults);
+            DUE.holds("MISSES too", x.count(1) > misses);
+        }
+        DUE.is("count(13)", x.count(13), 3);
+        long sum = 0;
+        for (int c = 0; c < 8; c++) sum += x.blame(c);
+        DUE.is("all ticks", x.count(14), sum);
     }
 
     /** "128 + an OBJECT": it may be the same one. */

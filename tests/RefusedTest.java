@@ -222,6 +222,16 @@ public final class RefusedTest {
         DUE.is("put(0, 0, 3, 167)", x.put(0, 0, 3, 167), BAD);
         DUE.is("room(99, 2)", x.room(99, 2), BAD);
         DUE.is("page(9, 2): it has no FRAME", x.page(9, 2), BAD);
+        x.hold(false, 0, -1);
+        x.gather(0);
+        x.gather(0);
+        DUE.is("make(0, 1, false)", x.make(0, 1, false), 0);
+        DUE.is("make(0, 1, false) behind", x.make(0, 1, false), 1);
+        x.hold(false, 0, 1);
+        x.gather(0);
+        DUE.is("put(0, 1, 0, 128): not even OBJECT 0 is there", x.put(0, 1, 0, 128), NO);
+        DUE.is("put(0, 1, 0, 129)", x.put(0, 1, 0, 129), x.about(1, 4));
+        DUE.is("put(0, 1, 0, 130)", x.put(0, 1, 0, 130), NO);
         x = chained();
         DUE.is("make(2, 1, false) where no number is", x.make(2, 1, false), BAD);
         DUE.is("make(0, 25, false) where no number is", x.make(0, 25, false), BAD);

@@ -391,7 +391,6 @@ public final class CellToObject {
             for (int i = 0; i < 8; i++) bytes[at * 8 + i] = cells.read(block * 8 + i);
             state[at] = CLEAN;
             taken[at] = false;
-            clock++;
             came[at] = clock;
         }
 
@@ -521,7 +520,7 @@ public final class CellToObject {
             touchedAt[frame] = clock;
             touchedSinceHand[frame] = true;
             everTouched[page] = true;
-            run.add(page);
+            run.append(page);
             return frame * PAGE_BYTES + address % PAGE_BYTES;
         }
 
@@ -600,7 +599,7 @@ public final class CellToObject {
             return pages[(first + i) % LENGTH];
         }
 
-        void add(int page) {
+        void append(int page) {
             if (length > 0 && pageAt(length - 1) == page) return;
             pages[(first + length) % LENGTH] = page;
             if (length < LENGTH) length++;
