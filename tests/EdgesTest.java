@@ -43,6 +43,7 @@ public final class EdgesTest {
         fieldValues();
         allRootsAndWeakOnes();
         lowestNumber();
+        fullThoughSomeDied();
         gatheringOfNone();
         ageOfTwo();
         lostFields();
@@ -794,6 +795,28 @@ public final class EdgesTest {
         DUE.is("count(13)", x.count(13), 1);
         DUE.is("count(12)", x.count(12), 37);
         DUE.is("count(11)", x.count(11), 5);
+    }
+
+    /** "if there is none then, FULL (what the GATHERING did stays)": though some died. */
+    private static void fullThoughSomeDied() {
+        CellToObject x = filledToTheEnd(0);
+        DUE.is("make(0, 16, true)", x.make(0, 16, true), 21);
+        DUE.is("make(0, 16, false)", x.make(0, 16, false), 23);
+        x.hold(true, 0, 23);
+        x.hold(true, 3, 21);
+        int gatherings = x.count(13), dead = x.count(12), asked = x.count(0);
+        DUE.is("make(1, 24, true)", x.make(1, 24, true), FULL);
+        DUE.is("count(13)", x.count(13), gatherings + 1);
+        DUE.is("count(12): 23 died", x.count(12), dead + 1);
+        DUE.is("about(23, 0)", x.about(23, 0), BAD);
+        DUE.is("hold(true, 0, -1)", x.hold(true, 0, -1), -1);
+        DUE.is("about(21, 3): its RITE is DONE", x.about(21, 3), 0);
+        DUE.is("hold(true, 3, -1)", x.hold(true, 3, -1), 21);
+        DUE.is("count(0): 30 of 24 and one of 16 LOADED, none SAVED", x.count(0), asked + 30 * 24 + 16);
+        DUE.is("room(0, 0): where 23 was", x.room(0, 0), 64);
+        DUE.is("make(1, 24, true) again: 21 dies, no ROOM still", x.make(1, 24, true), FULL);
+        DUE.is("count(12) then", x.count(12), dead + 2);
+        DUE.is("count(11)", x.count(11), 30);
     }
 
     // ---- 5 GATHERING
